@@ -1079,7 +1079,7 @@ public final class PromisesTest {
         due("elements go", x.count(4), 0);
         due("the book goes", x.count(6), 0);
         due("rows stay", x.count(5), 4);
-        due("the tape stays", x.count(3), 1);
+        due("the tape stays", x.wipe(), 1);
         due("back again", x.field(2) * 10 + x.back(), 77);
         due("n", x.count(1), 2);
         due("no image", new CurveRingsClosed().back(), NOT);
