@@ -1332,6 +1332,7 @@ public final class CurveRingsClosed {
         final Line spare = new Line(64);
         /** For each power of y: its polynomial in x, or its TRACE. */
         private final Line[] powers = newLines(SIDE, 40);
+        /** The rows only till use tells others. */
         private Line[] coef = rows;
         private int n = 2;
         private int p = 3;
@@ -1731,8 +1732,7 @@ public final class CurveRingsClosed {
             for (int l = 0; l <= i; l++) {
                 for (int m = 1; m <= TOP_M; m++) {
                     int sum = algebra.byT[i] * place.figure(k, i, l, m - 1)
-                            + algebra.plain[i] * place.figure(k, i, l, m)
-                            + algebra.timesT[i] * place.figure(k, i, l, m + 1);
+                            + algebra.plain[i] * place.figure(k, i, l, m);
                     grown[SPAN * l + m] = (grown[SPAN * l + m] + sum) % p;
                 }
             }
@@ -1772,10 +1772,9 @@ public final class CurveRingsClosed {
         private final boolean[] free = new boolean[WIDE];
         private final int[] nilBasis = new int[WIDE * WIDE];
         private final boolean[] isNil = new boolean[WIDE];
-        /** A new b_j has byT by t, and plain, and timesT times t, in front of the old b_i. */
+        /** A new b_j has byT by t, and plain, in front of the old b_i. */
         final int[] byT = new int[WIDE];
         final int[] plain = new int[WIDE];
-        final int[] timesT = new int[WIDE];
         private final int[] square = new int[WIDE * WIDE];
         /** Column i: y - d times b_i. */
         private final int[] difference = new int[WIDE * WIDE];
@@ -1891,7 +1890,7 @@ public final class CurveRingsClosed {
         /** y - d is t^DEPTH_1 b_1 less a polynomial in t, less d: taken by t, b_1 or nothing, and a number. */
         private void findDifference(Place place, int d) {
             int deep = place.deep(place.top, 1);
-            int number = deep > 0 ? 2 * p - place.figure(place.top, 1, 0, deep) - d : p - d;
+            int number = 2 * p - place.figure(place.top, 1, 0, deep) - d;
             for (int i = 0; i < n; i++) {
                 for (int l = 0; l < n; l++) {
                     int own = deep > 0 ? 0 : low[(WIDE + i) * WIDE + l];
@@ -1953,26 +1952,29 @@ public final class CurveRingsClosed {
         void findMultipliers() {
             for (int j = 0; j < n; j++) {
                 for (int l = 0; l < n; l++) {
-                    multiplyRadical(j, l);
+                    // c_j times t b_l is t times one of the radical, and so is t b_j times c_l
+                    boolean counts = isNil[j] && isNil[l];
+                    if (counts) {
+                        multiplyRadical(j, l);
+                    }
                     for (int i = 0; i < n; i++) {
-                        equations[WIDE * (n * l + i) + j] = part[i];
+                        equations[WIDE * (n * l + i) + j] = counts ? part[i] : 0;
                     }
                 }
             }
             solve(n * n);
         }
 
-        /** part becomes c_j c_l as a sum of c_i, taken by t. */
+        /** part becomes c_j c_l as a sum of c_i, taken by t; both have no t in front. */
         private void multiplyRadical(int j, int l) {
             for (int i = 0; i < n; i++) {
                 int sum = 0;
                 int sumByT = 0;
                 for (int a = 0; a < n; a++) {
                     for (int b = 0; b < n; b++) {
-                        int times = radical(j, a) * radical(l, b) % p;
-                        int e = (WIDE * a + b) * WIDE + i;
-                        sum += isNil[j] && isNil[l] ? times * low[e] : 0;
-                        sumByT += isNil[j] && isNil[l] ? times * high[e] : isNil[j] || isNil[l] ? times * low[e] : 0;
+                        int times = nilBasis[WIDE * j + a] * nilBasis[WIDE * l + b] % p;
+                        sum += times * low[(WIDE * a + b) * WIDE + i];
+                        sumByT += times * high[(WIDE * a + b) * WIDE + i];
                     }
                 }
                 part[i] = sum % p;
@@ -1991,36 +1993,23 @@ public final class CurveRingsClosed {
             }
         }
 
-        /** In front of b_a in c_j, or in c_j by t where that is t b_j. */
-        private int radical(int j, int a) {
-            return isNil[j] ? nilBasis[WIDE * j + a] : j == a ? 1 : 0;
-        }
-
         /** By how much DEPTH_j grows: 1 by the division by t, less 1 where c_j is t b_j. */
         int gainOf(int j) {
             return (free[j] ? 1 : 0) - (isNil[j] ? 0 : 1);
         }
 
-        /** byT, plain, timesT: how the new b_j comes from the old ones. */
+        /** byT, plain: how the new b_j comes from the old ones. It is c_j itself only where that has no t in front. */
         void combine(int j) {
             for (int i = 0; i < WIDE; i++) {
                 byT[i] = 0;
-                plain[i] = 0;
-                timesT[i] = 0;
+                plain[i] = free[j] ? 0 : nilBasis[WIDE * j + i];
             }
-            if (!free[j]) {
-                for (int a = 0; a < n; a++) {
-                    plain[a] = isNil[j] ? nilBasis[WIDE * j + a] : 0;
-                }
-                timesT[j] = isNil[j] ? 0 : 1;
-                return;
-            }
-            for (int i = 0; i < n; i++) {
+            for (int i = 0; free[j] && i < n; i++) {
                 int times = solution[WIDE * j + i];
                 for (int a = 0; isNil[i] && a < n; a++) {
                     byT[a] = (byT[a] + times * nilBasis[WIDE * i + a]) % p;
                 }
-                plain[i] = isNil[i] ? plain[i] : (plain[i] + times) % p;
+                plain[i] = isNil[i] ? 0 : times;
             }
         }
     }

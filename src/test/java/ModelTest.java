@@ -118,9 +118,39 @@ public final class ModelTest {
         return text.toString();
     }
 
+    /** Branches that stay together for long, about a line or parabola: bases with many numbers below their y^j. */
+    private String bundle(int n) {
+        String x = x();
+        String line = "(y-" + below(7) + "-" + below(7) + "*" + x
+                + (n < 4 ? "-" + below(7) + "*" + x + "^2" : "") + (n < 3 ? "-" + below(7) + "*" + x + "^3" : "") + ")";
+        String more = pick("+", "-") + (1 + below(6)) + "*" + x + "^" + (4 + below(3));
+        return switch (below(6)) {
+            case 4, 5 -> parting(n, "(y-" + below(7) + "-" + below(7) + "*" + x, x);
+            case 0 -> line + "^" + n + more;
+            case 1 -> line + "^" + n + "+" + (1 + below(6)) + "*" + x + "^" + (2 + below(3)) + "*" + line + more;
+            case 2 -> line + "^" + n + "+" + (1 + below(6)) + "*" + x + "^" + (2 + below(2)) + "*y^" + below(3) + more;
+            default -> "((y-" + below(7) + "-" + below(7) + "*" + x + ")^2-" + below(7) + "*" + x + "^3)^2" + more;
+        };
+    }
+
+    /** Factors that begin alike and part later, of degree 6 at most together. */
+    private String parting(int n, String begin, String x) {
+        int left = 6 - n;
+        StringBuilder text = new StringBuilder();
+        for (int t = 0; t < n; t++) {
+            int degree = t == n - 1 ? 1 + left : 1 + below(left + 1);
+            left -= degree - 1;
+            text.append(t == 0 ? "" : "*").append(begin);
+            text.append(degree > 1 ? "-" + below(7) + "*" + x + "^" + degree : "");
+            text.append(degree > 2 ? "-" + below(7) + "*" + x + "^2" : "").append(")");
+        }
+        return text.toString();
+    }
+
     private String curveText() {
         int n = 2 + below(3);
-        return switch (below(8)) {
+        return switch (below(11)) {
+            case 8, 9, 10 -> bundle(n);
             case 0, 1, 2 -> sparse(n, x());
             case 3, 4 -> lines(n);
             case 5 -> "(y^2-" + x() + "^3)^2-" + (1 + below(6)) + "*x^" + (3 + below(3)) + "*y";

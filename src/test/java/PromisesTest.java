@@ -426,6 +426,18 @@ public final class PromisesTest {
         due("b_2 is y^2 + 1 by t", w.digit(0, 1, 2, 2, 1) + 10 * w.digit(0, 1, 2, 0, 1) + 100 * w.digit(0, 1, 2, 1, 1), 11);
         due("b_3 is y^3 + y by t", w.digit(0, 1, 3, 3, 1) + 10 * w.digit(0, 1, 3, 1, 1) + 100 * w.digit(0, 1, 3, 0, 1), 11);
 
+        // s = y - 1 - x - x^2: b_1 is s by x^2, b_2 is s^2 by x^4 and 2 b_1
+        CurveRingsClosed three = fresh(7, "(y-1-x-x^2)^3-x^6");
+        int top = three.last(0);
+        int[][] b1 = {{0, 6, 6, 0, 0}, {0, 0, 1, 0, 0}, {0, 0, 0, 0, 0}};
+        int[][] b2 = {{0, 0, 1, 2, 1}, {0, 0, 0, 5, 5}, {0, 0, 0, 0, 1}};
+        for (int i = 0; i < 3; i++) {
+            for (int m = 0; m < 5; m++) {
+                due("b_1, y^" + i + " by t^" + m, three.digit(0, top, 1, i, m), b1[i][m]);
+                due("b_2, y^" + i + " by t^" + m, three.digit(0, top, 2, i, m), b2[i][m]);
+            }
+        }
+
         promise = 17;
         due("lost(3, 0)", x.lost(3, 0), 0);
         due("lost(3, 1)", x.lost(3, 1), 1);
