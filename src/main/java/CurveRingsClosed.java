@@ -1064,28 +1064,25 @@ public final class CurveRingsClosed {
             return high >= 0 ? -300 - high : 0;
         }
 
+        /** Goes on to the next token; where the text has ended, that is its size. */
         private void step() {
             while (next < size && bytes[next] == BLANK) {
                 next++;
             }
             where = next;
-            if (next >= size) {
-                kind = END;
-            } else if (isDigit(bytes[next])) {
-                stepNumber();
-            } else {
-                kind = isSign(bytes[next]) ? bytes[next] : WRONG;
-                next++;
-            }
-        }
-
-        private void stepNumber() {
             value = 0;
             while (next < size && isDigit(bytes[next])) {
                 value = next - where < LONGEST ? 10 * value + bytes[next] - '0' : value;
                 next++;
             }
-            kind = next - where <= LONGEST ? NUMBER : WRONG;
+            if (next > where) {
+                kind = next - where <= LONGEST ? NUMBER : WRONG;
+            } else if (next >= size) {
+                kind = END;
+            } else {
+                kind = isSign(bytes[next]) ? bytes[next] : WRONG;
+                next++;
+            }
         }
 
         private static boolean isDigit(int b) {
@@ -1965,7 +1962,10 @@ public final class CurveRingsClosed {
             solve(n * n);
         }
 
-        /** part becomes c_j c_l as a sum of c_i, taken by t; both have no t in front. */
+        /**
+         * part becomes c_j c_l as a sum of c_i, taken by t; both have no t in front. In front of c_i = b_i + .. stands
+         * what is in front of b_i; in front of c_i = t b_i what is in front of t b_i, less what the others bring there.
+         */
         private void multiplyRadical(int j, int l) {
             for (int i = 0; i < n; i++) {
                 int sum = 0;
@@ -1987,7 +1987,6 @@ public final class CurveRingsClosed {
                 }
                 for (int a = 0; a < i; a++) {
                     int less = (p - nilBasis[WIDE * i + a]) % p;
-                    part[a] = (part[a] + less * part[i]) % p;
                     partByT[a] = (partByT[a] + less * partByT[i]) % p;
                 }
             }

@@ -67,7 +67,8 @@ public final class ModelTest {
 
     /** 0 .. n - 1, now and then one beside that. */
     private int about(int n) {
-        return below(25) == 0 ? (below(2) == 0 ? -1 : n) : below(n);
+        int[] beside = {-1, n, -1, n, Integer.MIN_VALUE, Integer.MAX_VALUE};
+        return below(25) == 0 ? beside[below(beside.length)] : below(n);
     }
 
     private void feed(String text) {
@@ -358,9 +359,20 @@ public final class ModelTest {
         }
     }
 
-    private void goRings(int field) {
+    /** Curves over which a new b_j has numbers to take off by way of another b_i with numbers below its y^i. */
+    private static final String[] TANGLED = {
+        "2 (y-1-x)^4+x^2*y^2+x^2+x^4*y", "2 (y-1-x)^4+x^2*y^3", "2 (y-1-x)^4+x^4*y+x^2", "2 (y-x)^4+x^5*y",
+        "2 (y-1-x)^4+x^2*y^2+x^5*y+x^4*y^2", "3 (y-2)^4+x^3*y+2*x^3*y^3", "5 ((y-1-2*x)^2-4*x^2)^2+4*x^4+x^4*y",
+        "5 (y-3-4*x)^4+x^2*y", "5 (y-2*x)^4+2*x^3*y^3", "7 ((y-3-2*x)^2-4*x^2)^2+2*x^4+4*x^4*y",
+        "7 (y-2-4*x)^4+x^2*y", "7 (y-6*x)^4+3*x^3*y^3", "7 (y-1-x-x^2)^3-x^6"};
+
+    private void goRings(int field, String text) {
         call("field", field);
         p = (int) call("count", 0);
+        if (text != null) {
+            feed(text);
+            call("curve");
+        }
         for (int tries = 0; tries < 20 && call("count", 1) == 0; tries++) {
             newCurve();
         }
@@ -397,8 +409,13 @@ public final class ModelTest {
             if (run % 2 == 0) {
                 test.go(400, fields[run / 2 % fields.length]);
             } else {
-                test.goRings(fields[run / 2 % fields.length]);
+                test.goRings(fields[run / 2 % fields.length], null);
             }
+            calls += test.told.size();
+        }
+        for (int run = 0; run < TANGLED.length; run++) {
+            ModelTest test = new ModelTest(-1 - run);
+            test.goRings(TANGLED[run].charAt(0) - '0', TANGLED[run].substring(2));
             calls += test.told.size();
         }
         System.out.println("ModelTest: " + runs + " runs, " + calls + " calls agree");

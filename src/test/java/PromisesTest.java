@@ -884,6 +884,8 @@ public final class PromisesTest {
         due("find", x.find(1), 0);
         lay(x, 2, "y+1");
         due("none", x.find(2), NOT);
+        lay(x, 2, "y+x^2+1");
+        due("another by its 1 alone", x.find(2), NOT);
         due("a row", x.find(5), -13);
         due("nothing", x.find(4), -11);
         due("shelf -1", x.find(-1), BAD);
@@ -958,6 +960,7 @@ public final class PromisesTest {
         due("shelf -1", thrownByGet(x, -1, -1), 1);
         due("a row anew", x.row(0, 0, 40), 1);
         due("is 0", x.get(0, 39), 0);
+        due("is 0", x.get(0, 0), 0);
         promise = 41;
         for (int i = 0; i < 3; i++) {
             x.put(5, i, i + 1);
