@@ -1,72 +1,16 @@
 /** For each promise of the document: ordinary calls, the edges that it names, wrong inputs. */
-public final class PromisesTest {
-    private static int wrong = 0;
-    private static int promise = 0;
-
-    private static void due(String call, long got, long want) {
-        if (got != want) {
-            wrong++;
-            System.out.println("promise " + promise + ": " + call + " answered " + got + ", due is " + want);
-        }
+public final class PromisesTest extends Checks {
+    private static long weighing(CurveRingsClosed x, int shelf, int v) {
+        return answer(y -> y.weigh(shelf, v), x);
     }
 
-    private static CurveRingsClosed fresh(int p, String curve) {
-        CurveRingsClosed x = new CurveRingsClosed();
-        x.field(p);
-        if (curve != null && tell(x, curve) < 0) {
-            wrong++;
-            System.out.println("promise " + promise + ": no curve " + curve);
-        }
-        return x;
+    private static long getting(CurveRingsClosed x, int shelf, int i) {
+        return answer(y -> y.get(shelf, i), x);
     }
-
-    private static void feed(CurveRingsClosed x, String text) {
-        for (int i = 0; i < text.length(); i++) {
-            x.feed(1, text.charAt(i));
-        }
-    }
-
-    private static int tell(CurveRingsClosed x, String text) {
-        feed(x, text);
-        return x.curve();
-    }
-
-    private static int lay(CurveRingsClosed x, int shelf, String text) {
-        feed(x, text);
-        return x.element(shelf);
-    }
-
-    /** 0: nothing thrown; 1 .. 3: IllegalArgument-, IllegalState-, ArithmeticException. */
-    private static int thrownByWeigh(CurveRingsClosed x, int shelf, int v) {
-        try {
-            x.weigh(shelf, v);
-            return 0;
-        } catch (IllegalArgumentException e) {
-            return 1;
-        } catch (IllegalStateException e) {
-            return 2;
-        } catch (ArithmeticException e) {
-            return 3;
-        }
-    }
-
-    private static int thrownByGet(CurveRingsClosed x, int shelf, int i) {
-        try {
-            x.get(shelf, i);
-            return 0;
-        } catch (IllegalArgumentException e) {
-            return 1;
-        } catch (IllegalStateException e) {
-            return 2;
-        }
-    }
-
-    private static final int BAD = -1, STATE = -2, NOT = -3, FULL = -4;
 
     public static void main(String[] args) {
         newObject();
         fieldAndTape();
-        texts();
         curves();
         draws();
         discAndPoints();
@@ -81,8 +25,7 @@ public final class PromisesTest {
         rows();
         loadsAndSpills();
         imageAndCounts();
-        System.out.println(wrong == 0 ? "PromisesTest: all answers are as due" : wrong + " answers are not as due");
-        System.exit(wrong == 0 ? 0 : 1);
+        end("PromisesTest");
     }
 
     private static void newObject() {
@@ -154,88 +97,6 @@ public final class PromisesTest {
         due("wipe", x.wipe(), 3);
         due("count(3)", x.count(3), 0);
         due("nothing there", x.curve(), -100);
-    }
-
-    private static void fault(String text, int place) {
-        CurveRingsClosed x = fresh(3, "y^2-x");
-        due("curve " + text, tell(x, text), -100 - place);
-        due("element " + text, lay(x, 0, text), -100 - place);
-        due("no tape after " + text, x.count(3), 0);
-        due("the curve stays", x.front(1, 0), 2);
-        due("the shelf stays", x.count(4), 0);
-    }
-
-    private static void high(int p, String text, int place) {
-        CurveRingsClosed x = fresh(p, "y^2+y-x");
-        due("curve " + text, tell(x, text), -300 - place);
-        due("element " + text, lay(x, 0, text), -300 - place);
-        due("no tape after " + text, x.count(3), 0);
-        due("the shelf stays", x.count(4), 0);
-    }
-
-    private static void told(int p, String text, int i, int j, int number) {
-        CurveRingsClosed x = fresh(p, "y^4+y+x");
-        due("element " + text, lay(x, 0, text), 1);
-        due("number in " + text, x.at(0, j, i), number);
-    }
-
-    private static void texts() {
-        promise = 6;
-        fault("", 0);
-        fault("   ", 3);
-        fault("y^2- ", 5);
-        fault("-", 1);
-        fault("--x", 1);
-        fault("x*-y", 2);
-        fault("+x", 0);
-        fault("x+", 2);
-        fault("xy", 1);
-        fault("x 2", 2);
-        fault("2x", 1);
-        fault("x^", 2);
-        fault("x^y", 2);
-        fault("x^(2)", 2);
-        fault("x^7", 2);
-        fault("x^ 007", 3);
-        fault("x^1000", 2);
-        fault("x^2^2", 3);
-        fault("y+1234", 2);
-        fault("y+12 34", 5);
-        fault("(x", 2);
-        fault("x)", 1);
-        fault("()", 1);
-        fault("(x+y))", 5);
-        fault("((((x))))+(((((x)))))", 14);
-        fault("(((((", 4);
-        fault("x+z", 2);
-        fault("X", 0);
-        fault("x\ty", 1);
-        fault("x+\u00e9", 2);
-        fault("x^6*x*(", 7);
-        fault("x*x^6+&", 6);
-        told(7, " 999 * x - 12 ", 1, 0, 5);
-        told(7, " 999 * x - 12 ", 0, 0, 2);
-        told(5, "-x^2+y", 2, 0, 4);
-        told(5, "-x^2+y", 0, 1, 1);
-        told(5, "x-y-1", 0, 0, 4);
-        told(5, "x-(y-1)", 0, 0, 1);
-        told(5, "(x+2*y)^3", 1, 2, 2);
-        told(5, "2*x*(-x+y)*3", 2, 0, 4);
-        told(3, "(x-x)^0", 0, 0, 1);
-        told(3, "x^006", 6, 0, 1);
-        told(3, "((((x+1))))^2", 1, 0, 2);
-        told(3, "3*x^6*x^6+y", 0, 1, 1);
-        told(3, "0*x^6*y", 0, 0, 0);
-        told(7, "2^6", 0, 0, 1);
-        high(3, "x^6*x*(1)", 3);
-        high(3, "x*x^6", 1);
-        high(3, "(x^2)^4", 5);
-        high(3, "x*(x*x^6)", 4);
-        high(3, "x^4*x^4*(x^5*x^5)", 3);
-        high(3, "(x*x^6)^0", 2);
-        high(3, "(x+y)^3*(x+y^2)^2", 7);
-        high(3, "y^2+x^6*0+y*y^6*0", 11);
-        high(2, "(x*y+1)^4", 7);
     }
 
     private static void curves() {
@@ -825,18 +686,18 @@ public final class PromisesTest {
         due("2^31", x.weigh(0, 2), 1L << 31);
         due("- 2^31", x.weigh(0, -2), -(1L << 31));
         due("2^62", x.weigh(0, 4), 1L << 62);
-        due("5^31", thrownByWeigh(x, 0, 5), 3);
+        due("5^31", weighing(x, 0, 5), THROWS_ARITHMETIC);
         due("by 0", x.weigh(0, 0), 0);
         due("by 1", x.weigh(0, 1), 1);
         due("by -1", x.weigh(0, -1), -1);
         lay(x, 1, "2*y");
-        due("2^63", thrownByWeigh(x, 1, 4), 3);
+        due("2^63", weighing(x, 1, 4), THROWS_ARITHMETIC);
         due("- 2^63", x.weigh(1, -4), Long.MIN_VALUE);
         lay(x, 2, "2*x^2+x+1");
         due("2 v^2 + v + 1", x.weigh(2, 1000), 2001001);
         due("2^63 - 2^31 + 1", x.weigh(2, Integer.MIN_VALUE), Long.MAX_VALUE - (1L << 31) + 2);
         lay(x, 2, "2*x^2+1");
-        due("by the least int", thrownByWeigh(x, 2, Integer.MIN_VALUE), 3);
+        due("by the least int", weighing(x, 2, Integer.MIN_VALUE), THROWS_ARITHMETIC);
         lay(x, 2, "x^2+2");
         due("by the least int", x.weigh(2, Integer.MIN_VALUE), (1L << 62) + 2);
         due("by the greatest int", x.weigh(2, Integer.MAX_VALUE), (long) Integer.MAX_VALUE * Integer.MAX_VALUE + 2);
@@ -844,20 +705,20 @@ public final class PromisesTest {
         x.over(3, 0, 1);
         due("what is above of a fraction", x.weigh(3, 2), (1L << 31) + 2);
         x.row(4, 0, 1);
-        due("a row", thrownByWeigh(x, 4, 1), 2);
-        due("nothing", thrownByWeigh(x, 5, 1), 2);
-        due("shelf 6", thrownByWeigh(x, 6, 1), 1);
-        due("shelf -1", thrownByWeigh(x, -1, 1), 1);
-        due("without a curve", thrownByWeigh(new CurveRingsClosed(), 0, 1), 2);
+        due("a row", weighing(x, 4, 1), THROWS_STATE);
+        due("nothing", weighing(x, 5, 1), THROWS_STATE);
+        due("shelf 6", weighing(x, 6, 1), THROWS_ARGUMENT);
+        due("shelf -1", weighing(x, -1, 1), THROWS_ARGUMENT);
+        due("without a curve", weighing(new CurveRingsClosed(), 0, 1), THROWS_STATE);
         x = fresh(7, "y^2-x");
         digitsOf(x, Long.MAX_VALUE, 0);
         due("the greatest long", x.weigh(0, 7), Long.MAX_VALUE);
         digitsOf(x, Long.MAX_VALUE, 1);
-        due("a sum that is no long", thrownByWeigh(x, 0, 7), 3);
+        due("a sum that is no long", weighing(x, 0, 7), THROWS_ARITHMETIC);
         x = fresh(2, "y^4+y+x");
         lay(x, 0, "y^3");
         due("93 steps by -1", x.weigh(0, -1), -1);
-        due("93 steps by 2", thrownByWeigh(x, 0, 2), 3);
+        due("93 steps by 2", weighing(x, 0, 2), THROWS_ARITHMETIC);
     }
 
     private static void book() {
@@ -953,11 +814,11 @@ public final class PromisesTest {
         due("get", x.get(0, 39), -5);
         due("get", x.get(0, 0), Integer.MIN_VALUE);
         due("get", x.get(5, 2), Long.MIN_VALUE);
-        due("place 40", thrownByGet(x, 0, 40), 2);
-        due("place -1", thrownByGet(x, 0, -1), 2);
-        due("nothing", thrownByGet(x, 2, 0), 2);
-        due("shelf 6", thrownByGet(x, 6, 0), 1);
-        due("shelf -1", thrownByGet(x, -1, -1), 1);
+        due("place 40", getting(x, 0, 40), THROWS_STATE);
+        due("place -1", getting(x, 0, -1), THROWS_STATE);
+        due("nothing", getting(x, 2, 0), THROWS_STATE);
+        due("shelf 6", getting(x, 6, 0), THROWS_ARGUMENT);
+        due("shelf -1", getting(x, -1, -1), THROWS_ARGUMENT);
         due("a row anew", x.row(0, 0, 40), 1);
         due("is 0", x.get(0, 39), 0);
         due("is 0", x.get(0, 0), 0);
@@ -994,7 +855,7 @@ public final class PromisesTest {
         promise = 39;
         due("an element", x.put(3, 0, 0), -13);
         promise = 40;
-        due("an element", thrownByGet(x, 3, 0), 2);
+        due("an element", getting(x, 3, 0), THROWS_STATE);
         promise = 44;
         due("an element", x.clear(3), 1);
         due("nothing", x.clear(3), 0);
