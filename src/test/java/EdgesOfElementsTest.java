@@ -727,6 +727,12 @@ public final class EdgesOfElementsTest extends Checks {
                 due("y^" + j + " at 2", answer(at2, x), j == 3 ? THROWS_ARITHMETIC : (1L << 31 * j) + 4);
             }
         }
+        says(34, "each from that in front of x^30 down to that of x^0");
+        x = powers(30, 0, 0, 30, 1, 0);
+        due("x^30 at 2", x.weigh(0, 2), 1L << 30);
+        due("x^30 y at 2", x.weigh(1, 2), 1L << 61);
+        due("x^30 y at -2", x.weigh(1, -2), -(1L << 61));
+        due("x^30 y at 1", x.weigh(1, 1), 1);
         says(34, "in longs, exactly");
         x = fresh(5, "y^3-x^4");
         long[] due = {1L << 62, THROWS_ARITHMETIC, THROWS_ARITHMETIC};

@@ -270,8 +270,31 @@ public final class ModelTest {
         }
     }
 
+    /** Elements of about the DEGREE and the m that there is just ROOM for. */
+    private void wideCall(int shelf) {
+        int other = numberOf("shelf");
+        feed(pick("", x() + "+") + x() + "^" + (3 + below(4)) + pick("", "*y", "+y", "+1"));
+        call("element", shelf);
+        for (int k = 0; k < 3; k++) {
+            call(pick("times", "times", "plus"), shelf, below(3) == 0 ? other : shelf, shelf);
+        }
+        call("over", shelf, below(2), 17 + below(5));
+        feed(x() + "^" + below(7) + pick("", "*y", "+y", "+1"));
+        call("element", other);
+        call("over", other, below(2), below(21));
+        call(pick("times", "plus"), shelf, other, pick("a", "b").equals("a") ? shelf : other);
+        call(pick("note", "find", "lies", "whole", "place"), pick("a", "b").equals("a") ? shelf : other);
+        call("at", shelf, below(3), 20 + below(11));
+        call("equation", shelf, 1 + below(3), below(150));
+        call("copyOut", about(7), shelf);
+    }
+
     private void elementCall() {
         int shelf = numberOf("shelf");
+        if (below(12) == 0) {
+            wideCall(shelf);
+            return;
+        }
         switch (below(16)) {
             case 0 -> {
                 feed(elementText());
