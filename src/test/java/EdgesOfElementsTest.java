@@ -20,6 +20,7 @@ public final class EdgesOfElementsTest extends Checks {
         wholeRefused();
         wholeOrNot();
         equationValues();
+        equationOfAll();
         equationAnew();
         afterRings();
         liesAt();
@@ -552,6 +553,34 @@ public final class EdgesOfElementsTest extends Checks {
         power(x, 1, 30, 3);
         due("x^138", x.equation(1, 4, 138), 1);
         due("x^39", x.equation(1, 1, 39), 1);
+    }
+
+    /** z^n + g_1 z^(n - 1) + .. + g_n is 0: for a z that no shorter one fits, there are no other g_j. */
+    private static void equationOfAll() {
+        says(32, "EQUATION of z: all g_j, where all numbers of f and z count");
+        String[] curves = {"y^2+x^3*y+2*y+x^5+x+1", "y^3+x^2*y^2+2*y^2+x*y+3*y+x^4+2", "y^4+x*y^3+2*y^3+x^2*y^2+3*y+x^3*y+x^5+x+4"};
+        String[] texts = {"y", "y+x", "x^2*y+2*y+x+3", "y^3+x*y^2+2*y+x^2+1", "(x+1)*y^2+3*y+x", "y^3+2*y^2"};
+        for (String curve : curves) {
+            for (String text : texts) {
+                CurveRingsClosed x = fresh(7, curve);
+                int n = x.count(1);
+                lay(x, 0, text);
+                lay(x, 1, "1");
+                for (int j = 1; j <= n; j++) {
+                    lay(x, 2, "0");
+                    for (int i = 24; i >= 0; i--) {
+                        lay(x, 3, "x");
+                        x.times(2, 3, 2);
+                        lay(x, 3, String.valueOf(x.equation(0, j, i)));
+                        x.plus(2, 3, 2);
+                    }
+                    due("times", x.times(1, 0, 1), 0);
+                    due("plus", x.plus(1, 2, 1), 0);
+                    due("it is 0 behind g_" + j, x.weigh(1, 1) == 0 ? 1 : 0, j == n ? 1 : 0);
+                }
+                due("no x^25", x.equation(0, n, 25), 0);
+            }
+        }
     }
 
     /** Each call that brings another ELEMENT to a shelf makes its EQUATION another. */
