@@ -16,6 +16,7 @@ public final class CurveRingsClosed {
     private static final int MOST = 6, SIDE = 7, AREA = 49;
     private static final int TOP_X = 30, TOP_M = 20;
     private static final int RINGS = 19;
+    private static final long GREATEST_LONG = 0x7fffffffffffffffL, LEAST_LONG = -GREATEST_LONG - 1;
 
     private final Reader tape = new Reader();
     private Curve now = new Curve();
@@ -415,7 +416,7 @@ public final class CurveRingsClosed {
         for (int j = now.n - 1; j >= 0; j--) {
             for (int i = TOP_X; i >= 0; i--) {
                 int more = z.a[j].number(i);
-                if (!productIsLong(h, v) || h * v > Long.MAX_VALUE - more) {
+                if (!productIsLong(h, v) || h * v > GREATEST_LONG - more) {
                     throw new ArithmeticException("no long");
                 }
                 h = h * v + more;
@@ -483,7 +484,7 @@ public final class CurveRingsClosed {
         if (i < 0 || i >= s.size) {
             return NO_PLACE;
         }
-        if (s.sort == 0 && (v < Integer.MIN_VALUE || v > Integer.MAX_VALUE)) {
+        if (s.sort == 0 && (int) v != v) {
             return NO_INT;
         }
         s.numbers[i] = v;
@@ -758,10 +759,10 @@ public final class CurveRingsClosed {
             return true;
         }
         if (v == -1) {
-            return h != Long.MIN_VALUE;
+            return h != LEAST_LONG;
         }
-        long ofMax = Long.MAX_VALUE / v;
-        long ofMin = Long.MIN_VALUE / v;
+        long ofMax = GREATEST_LONG / v;
+        long ofMin = LEAST_LONG / v;
         return v > 0 ? h <= ofMax && h >= ofMin : h >= ofMax && h <= ofMin;
     }
 

@@ -1,4 +1,6 @@
 import java.io.IOException;
+import java.io.PrintWriter;
+import java.io.StringWriter;
 import java.lang.reflect.Array;
 import java.lang.reflect.Constructor;
 import java.lang.reflect.Field;
@@ -7,6 +9,7 @@ import java.lang.reflect.Modifier;
 import java.nio.file.Files;
 import java.nio.file.Path;
 import java.util.ArrayList;
+import java.util.HashMap;
 import java.util.IdentityHashMap;
 import java.util.List;
 import java.util.Map;
@@ -14,6 +17,7 @@ import java.util.Set;
 import java.util.TreeSet;
 import java.util.regex.Matcher;
 import java.util.regex.Pattern;
+import java.util.spi.ToolProvider;
 
 /** What of the language's rules can be seen from the source and from the class. */
 public final class RulesTest {
@@ -94,7 +98,7 @@ public final class RulesTest {
         }
         Matcher library = Pattern.compile("\\b(Math|Integer|Long)\\.(\\w+)").matcher(code);
         while (library.find()) {
-            boolean listed = Set.of("max", "min", "floorMod", "bitCount", "MAX_VALUE", "MIN_VALUE").contains(library.group(2));
+            boolean listed = Set.of("max", "min", "floorMod", "bitCount").contains(library.group(2));
             check(listed, "library " + library.group());
         }
         Matcher thrown = Pattern.compile("throw new (\\w+)").matcher(code);
@@ -118,6 +122,63 @@ public final class RulesTest {
             }
             check(end - i <= 60, "a method of " + (end - i) + " lines at " + (i + 1));
         }
+    }
+
+    private static final Pattern HEAD = Pattern.compile("  (?:[\\w$.\\[\\]]+ )*([\\w$]+)\\(.*;");
+    private static final Pattern CALLED = Pattern.compile(".*// (?:Interface)?Method ([^:]+):.*");
+
+    /** Who calls whom, by the compiled class: Class.method, a constructor as Class.<init>. */
+    private static Map<String, Set<String>> whoCallsWhom(ToolProvider javap) {
+        Map<String, Set<String>> calls = new HashMap<>();
+        List<Class<?>> classes = new ArrayList<>(List.of(CurveRingsClosed.class.getDeclaredClasses()));
+        classes.add(CurveRingsClosed.class);
+        for (Class<?> one : classes) {
+            StringWriter text = new StringWriter();
+            String path = System.getProperty("java.class.path");
+            int code = javap.run(new PrintWriter(text, true), new PrintWriter(System.out, true), "-c", "-p", "-cp", path,
+                    one.getName());
+            check(code == 0, "javap read " + one);
+            Set<String> from = new TreeSet<>();
+            for (String line : text.toString().split("\n")) {
+                Matcher head = HEAD.matcher(line.stripTrailing());
+                Matcher called = CALLED.matcher(line);
+                if (head.matches()) {
+                    boolean made = head.group(1).equals(one.getName());
+                    from = calls.computeIfAbsent(one.getName() + '.' + (made ? "<init>" : head.group(1)), key -> new TreeSet<>());
+                } else if (called.matches()) {
+                    String name = called.group(1).replace("\"", "");
+                    from.add(name.contains(".") ? name : one.getName() + '.' + name);
+                }
+            }
+        }
+        return calls;
+    }
+
+    private static int deep(String name, Map<String, Set<String>> calls, int above) {
+        int most = 0;
+        for (String next : above < 40 ? calls.getOrDefault(name, Set.of()) : Set.<String>of()) {
+            boolean library = next.startsWith("java");
+            most = Math.max(most, library ? 0 : deep(next, calls, above + 1));
+        }
+        return most + 1;
+    }
+
+    private static void calls() {
+        ToolProvider javap = ToolProvider.findFirst("javap").orElse(null);
+        if (javap == null) {
+            System.out.println("RulesTest: there is no javap here; who calls whom was not looked at");
+            return;
+        }
+        Map<String, Set<String>> calls = whoCallsWhom(javap);
+        Set<String> listed = Set.of("java/lang/ArithmeticException.<init>", "java/lang/IllegalArgumentException.<init>",
+                "java/lang/IllegalStateException.<init>", "java/lang/Integer.bitCount", "java/lang/Math.floorMod",
+                "java/lang/Math.max", "java/lang/Math.min", "java/lang/Object.<init>", "java/lang/System.arraycopy");
+        calls.forEach((name, all) -> all.forEach(
+                next -> check(!next.startsWith("java") || listed.contains(next), name + " calls " + next)));
+        String again = "CurveRingsClosed$Reader.readSum";
+        check(calls.get("CurveRingsClosed$Reader.readAtom").remove(again), "the one recursion is known");
+        calls.keySet().forEach(name -> check(deep(name, calls, 0) <= 8, "calls go deep from " + name));
+        check(deep("CurveRingsClosed.genus", calls, 0) > 4, "calls were read");
     }
 
     private static long objects = 0;
@@ -159,6 +220,7 @@ public final class RulesTest {
     public static void main(String[] args) throws IOException, IllegalAccessException {
         face();
         source();
+        calls();
         room();
         System.out.println(wrong == 0 ? "RulesTest: all rules hold that can be seen" : wrong + " rules broken");
         System.exit(wrong == 0 ? 0 : 1);
